@@ -1122,7 +1122,7 @@ public final class PageLevels {
         }
 
         void change(int slot, int v, boolean isDirty) {
-            if (isSlot(slot)) {
+            if (slot >= 0 && slot < MOST_SLOTS) {
                 values[slot] = v;
                 dirty[slot] = isDirty;
             }
@@ -1192,7 +1192,7 @@ public final class PageLevels {
 
         /** Whether by notes a SLOT is rather VICTIM than another. */
         private boolean goesAhead(int slot, int other) {
-            if (!isSlot(slot) || !isSlot(other)) {
+            if (slot < 0 || slot >= MOST_SLOTS || other < 0 || other >= MOST_SLOTS) {
                 return false;
             }
             switch (kind) {
@@ -1364,7 +1364,7 @@ public final class PageLevels {
             int cost = lookFor(page);
             boolean isDirty = leaveToComeNear(page);
             for (int number = farthestToHold(); number >= 1; number--) {
-                placeInto(number, page, got, isDirty);
+                placeInto(this, number, page, got, isDirty);
             }
             if (writing) {
                 putValue(page, v);
@@ -1372,7 +1372,7 @@ public final class PageLevels {
             int lastAhead = from == 0 ? runOn(page) : NONE;
             for (int next = page + 1; next <= lastAhead; next++) {
                 if (levelsWith(next) == 0) {
-                    placeInto(count, next, inMemory(next), false);
+                    placeInto(this, count, next, inMemory(next), false);
                     fetched++;
                 }
             }
@@ -1444,25 +1444,25 @@ public final class PageLevels {
             return run < 2 || count == 0 ? NONE : Math.min(page + ahead, PAGES - 1);
         }
 
-        /** Calls itself for farther LEVELS alone, of which there are few. */
-        private void placeInto(int number, int page, int v, boolean isDirty) {
-            Level level = levelAt(number);
+        /** Calls itself for farther LEVELS alone: as deep as there are LEVELS. */
+        private static void placeInto(Store store, int number, int page, int v, boolean isDirty) {
+            Level level = store.levelAt(number);
             if (level == null) {
                 return;
             }
             int slot = level.freeSlot();
             if (slot == NONE) {
-                slot = victimOf(level);
-                if (mode == EXCLUSIVE && number < count) {
-                    placeInto(number + 1, level.pageIn(slot), level.valueIn(slot), level.isDirty(slot));
+                slot = store.victimOf(level);
+                if (store.mode == EXCLUSIVE && number < store.count) {
+                    placeInto(store, number + 1, level.pageIn(slot), level.valueIn(slot), level.isDirty(slot));
                 } else {
-                    flushVictim(number, level.pageIn(slot));
+                    store.flushVictim(number, level.pageIn(slot));
                 }
                 level.letOut(slot);
             }
-            level.hold(slot, page, placedInAll, turn);
+            level.hold(slot, page, store.placedInAll, store.turn);
             level.change(slot, v, isDirty);
-            placedInAll++;
+            store.placedInAll++;
         }
 
         /** The SLOT of the VICTIM of a full LEVEL. */
