@@ -48,12 +48,14 @@ public final class PageLevels {
     private static final int SHOWN = 10;
 
     private final Store now = new Store();
+    /** READS that are only asked for are done here, so that nothing changes. */
     private final Store thought = new Store();
     private final Store imaged = new Store();
     private boolean hasImage;
     private final Tape tape = new Tape();
     private final Shelf[] shelves = new Shelf[SHELVES];
     private final int[] refusals = new int[REFUSAL_KINDS];
+    /** PAGES of the ROW that is asked about. */
     private final int[] told = new int[MOST_ELEMENTS];
 
     public PageLevels() {
@@ -183,7 +185,6 @@ public final class PageLevels {
         return cost;
     }
 
-    /** Does a part of TRAFFIC: its COST. */
     private int doPart(int part) {
         int letter = tape.letterOf(part);
         int number = tape.numberOf(part);
@@ -381,12 +382,9 @@ public final class PageLevels {
     }
 
     public int plan(int s, int n, int what) {
-        if (!isWithin(n, 0, MOST_ELEMENTS) || !isWithin(what, 0, 2)) {
-            return refuse(BAD);
-        }
-        int refusal = hear(s, n, 1);
+        int refusal = hear(s, n, isWithin(what, 0, 2));
         if (refusal != FINE) {
-            return refuse(refusal);
+            return refusal;
         }
         thought.takeFrom(now);
         int cost = 0;
@@ -404,12 +402,9 @@ public final class PageLevels {
     }
 
     public int rule(int level, int s, int n) {
-        if (!isWithin(level, 1, now.count) || !isWithin(n, 0, MOST_ELEMENTS)) {
-            return refuse(BAD);
-        }
-        int refusal = hear(s, n, 1);
+        int refusal = hear(s, n, isWithin(level, 1, now.count));
         if (refusal != FINE) {
-            return refuse(refusal);
+            return refusal;
         }
         int best = NONE;
         int least = 0;
@@ -429,12 +424,9 @@ public final class PageLevels {
     }
 
     public int size(int level, int s, int n, int most) {
-        if (!isWithin(level, 1, now.count) || !isWithin(n, 0, MOST_ELEMENTS) || most < 0) {
-            return refuse(BAD);
-        }
-        int refusal = hear(s, n, 1);
+        int refusal = hear(s, n, isWithin(level, 1, now.count) && most >= 0);
         if (refusal != FINE) {
-            return refuse(refusal);
+            return refusal;
         }
         for (int slots = 1; slots <= MOST_SLOTS; slots++) {
             thinkSweptOut();
@@ -450,12 +442,9 @@ public final class PageLevels {
     }
 
     public int modes(int s, int n) {
-        if (!isWithin(n, 0, MOST_ELEMENTS)) {
-            return refuse(BAD);
-        }
-        int refusal = hear(s, n, 1);
+        int refusal = hear(s, n, true);
         if (refusal != FINE) {
-            return refuse(refusal);
+            return refusal;
         }
         int bits = 0;
         int least = 0;
@@ -475,23 +464,17 @@ public final class PageLevels {
     }
 
     public int foresight(int s, int n, int slots) {
-        if (!isWithin(n, 0, MOST_ELEMENTS) || !isWithin(slots, 1, MOST_SLOTS)) {
-            return refuse(BAD);
-        }
-        int refusal = hear(s, n, 1);
+        int refusal = hear(s, n, isWithin(slots, 1, MOST_SLOTS));
         if (refusal != FINE) {
-            return refuse(refusal);
+            return refusal;
         }
         return hitsByForesight(n, slots);
     }
 
     public int reuse(int s, int n, int i) {
-        if (!isWithin(n, 0, MOST_ELEMENTS)) {
-            return refuse(BAD);
-        }
-        int refusal = hear(s, n, 1);
+        int refusal = hear(s, n, true);
         if (refusal != FINE) {
-            return refuse(refusal);
+            return refusal;
         }
         if (!isWithin(i, 0, n - 1)) {
             return refuse(BAD);
@@ -500,12 +483,9 @@ public final class PageLevels {
     }
 
     public int rowOf(int s, int n, int what) {
-        if (!isWithin(n, 0, MOST_ELEMENTS) || !isWithin(what, 0, 2)) {
-            return refuse(BAD);
-        }
-        int refusal = hear(s, n, 1);
+        int refusal = hear(s, n, isWithin(what, 0, 2));
         if (refusal != FINE) {
-            return refuse(refusal);
+            return refusal;
         }
         if (what == 0) {
             return Long.bitCount(pagesTold(0, n));
@@ -517,7 +497,7 @@ public final class PageLevels {
         if (!isWithin(n, 0, MOST_TWOS)) {
             return refuse(BAD);
         }
-        int refusal = hear(s, n, 2);
+        int refusal = listen(s, n, 2);
         if (refusal != FINE) {
             return refuse(refusal);
         }
@@ -626,7 +606,6 @@ public final class PageLevels {
         return false;
     }
 
-    /** Counts a REFUSAL: its number. */
     private int refuse(int number) {
         int kind = BAD - number;
         if (isWithin(kind, 0, refusals.length - 1)) {
@@ -658,11 +637,17 @@ public final class PageLevels {
         return shelf.isRow() ? FINE : NOTHING;
     }
 
-    /**
-     * FINE, and then n PAGES are told: the first of every step elements of the
-     * ROW in SHELF s; or why they can't be told.
-     */
-    private int hear(int s, int n, int step) {
+    /** FINE, and then the told ROW is heard; or what is refused. */
+    private int hear(int s, int n, boolean othersMayBe) {
+        if (!othersMayBe || !isWithin(n, 0, MOST_ELEMENTS)) {
+            return refuse(BAD);
+        }
+        int refusal = listen(s, n, 1);
+        return refusal == FINE ? FINE : refuse(refusal);
+    }
+
+    /** FINE, and then n PAGES are told, one of every step elements of a ROW; or why they can't be. */
+    private int listen(int s, int n, int step) {
         Shelf shelf = shelfAt(s);
         int refusal = rowRefusal(shelf);
         if (shelf == null || refusal != FINE) {
@@ -1047,7 +1032,7 @@ public final class PageLevels {
         final int[] last = new int[MOST_SLOTS];
         final int[] times = new int[MOST_SLOTS];
         final boolean[] used = new boolean[MOST_SLOTS];
-        /** The SLOT of each PAGE; NONE: it hasn't it. */
+        /** The SLOT of each PAGE (NONE: it hasn't it), so that LOOKING needs no search. */
         final int[] slots = new int[PAGES];
 
         void begin(int newSize, int newCost, int newKind) {
@@ -1465,7 +1450,6 @@ public final class PageLevels {
             store.placedInAll++;
         }
 
-        /** The SLOT of the VICTIM of a full LEVEL. */
         private int victimOf(Level level) {
             if (level.kind == CLOCK) {
                 return level.clockVictim();
@@ -1519,7 +1503,7 @@ public final class PageLevels {
             putInMemory(page, v);
         }
 
-        /** A LEVEL is SWEPT: how many were FLUSHED. */
+        /** How many were FLUSHED. */
         int sweepLevel(int number) {
             Level level = levelAt(number);
             if (level == null) {
@@ -1536,7 +1520,6 @@ public final class PageLevels {
             return swept;
         }
 
-        /** All are SWEPT OUT. */
         void sweepOut() {
             for (int number = 1; number <= count; number++) {
                 sweepLevel(number);

@@ -1062,7 +1062,7 @@ public final class ModelTest {
                 text.append(i == 0 ? "" : " ");
                 switch (random.nextInt(6)) {
                     case 0: text.append("s").append(random.nextInt(10) == 0 ? levels + 1 : Math.max(levels, 1)); break;
-                    case 1: text.append("a").append(random.nextInt(8) == 0 ? random.nextInt(12) : random.nextInt(9)); break;
+                    case 1: text.append("a").append(random.nextInt(random.nextInt(8) == 0 ? 12 : 9)); break;
                     case 2:
                     case 3: text.append("w").append(page()).append("=").append(random.nextInt(1000)); break;
                     default: text.append("r").append(page()); break;

@@ -1011,7 +1011,15 @@ public final class PromisesTest {
         wrongRows("foresight", (x, s, n) -> x.foresight(s, n, 2));
         wrongRows("reuse", (x, s, n) -> x.reuse(s, n, 0));
         wrongRows("rowOf", (x, s, n) -> x.rowOf(s, n, 0));
-        wrongRows("number of plan", (x, s, n) -> s == 0 && n == 2 ? OTHER : s == 1 && n == 2 ? NOTHING : x.plan(s, 0, 3));
+        PageLevels x = with(2, 1, 3);
+        x.show(0, 1);
+        due("bad what ahead of a rule", x.plan(0, 2, 3), BAD);
+        due("bad level ahead of a rule", x.rule(2, 0, 2), BAD);
+        due("bad most ahead of a rule", x.size(1, 0, 2, -1), BAD);
+        due("bad slots ahead of a rule", x.foresight(0, 2, 0), BAD);
+        due("bad what ahead of a rule", x.rowOf(0, 2, -1), BAD);
+        due("a rule ahead of no i-th", x.reuse(0, 2, 2), OTHER);
+        due("a rule, none told", x.modes(0, 0), OTHER);
     }
 
     static void plan() {
