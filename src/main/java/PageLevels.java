@@ -988,10 +988,12 @@ public final class PageLevels {
 
         void note(int turn, int page, boolean writing, int cost, int level) {
             int place = Math.floorMod(turn, KEPT_PAST);
-            pages[place] = page;
-            written[place] = writing ? 1 : 0;
-            costs[place] = cost;
-            levels[place] = level;
+            if (isWithin(place, 0, KEPT_PAST - 1)) {
+                pages[place] = page;
+                written[place] = writing ? 1 : 0;
+                costs[place] = cost;
+                levels[place] = level;
+            }
             if (isPage(page)) {
                 times[page]++;
             }
@@ -999,6 +1001,9 @@ public final class PageLevels {
 
         int tells(int turn, int what) {
             int place = Math.floorMod(turn, KEPT_PAST);
+            if (!isWithin(place, 0, KEPT_PAST - 1)) {
+                return NONE;
+            }
             switch (what) {
                 case 0: return pages[place];
                 case 1: return written[place];
@@ -1307,10 +1312,14 @@ public final class PageLevels {
         }
 
         void takeFrom(Store other) {
-            for (int k = 0; k < other.count && k < MOST_LEVELS; k++) {
-                levels[k].takeFrom(other.levels[k]);
-            }
             count = other.count;
+            for (int number = 1; number <= count; number++) {
+                Level mine = levelAt(number);
+                Level kept = other.levelAt(number);
+                if (mine != null && kept != null) {
+                    mine.takeFrom(kept);
+                }
+            }
             System.arraycopy(other.memory, 0, memory, 0, PAGES);
             memoryCost = other.memoryCost;
             mode = other.mode;
@@ -1574,8 +1583,19 @@ public final class PageLevels {
             if (what == 1) {
                 return nearestDirty(1, count, page) != null;
             }
-            Level nearest = levelAt(Integer.numberOfTrailingZeros(levelsWith(page)) + 1);
+            Level nearest = nearestWith(page);
             return nearest != null && nearest.valueIn(nearest.slotOf(page)) != inMemory(page);
+        }
+
+        /** The nearest LEVEL that has a PAGE; null: none. */
+        private Level nearestWith(int page) {
+            for (int number = 1; number <= count; number++) {
+                Level level = levelAt(number);
+                if (level != null && level.slotOf(page) != NONE) {
+                    return level;
+                }
+            }
+            return null;
         }
 
         boolean keepsMode() {

@@ -1,67 +1,5 @@
 /** The promises of the document, one after the other: ordinary calls, edges, wrong numbers. */
-public final class PromisesTest {
-    static final int BAD = -52;
-    static final int OTHER = -53;
-    static final int NOTHING = -54;
-    static final int STUCK = -55;
-    static final int FULL = -56;
-    static final long BITS = 9000000000000000000L;
-    static final int LOW = Integer.MIN_VALUE;
-    static final int HIGH = Integer.MAX_VALUE;
-
-    static int checks = 0;
-    static int wrong = 0;
-    static String promise = "";
-
-    static void due(String what, long got, long want) {
-        checks++;
-        if (got != want) {
-            wrong++;
-            System.out.println(promise + ": " + what + " answered " + got + ", due is " + want);
-        }
-    }
-
-    /** A new object with LEVELS, of each its size, cost and kind. */
-    static PageLevels with(int... levels) {
-        PageLevels x = new PageLevels();
-        for (int i = 0; i + 2 < levels.length; i += 3) {
-            x.level(levels[i], levels[i + 1], levels[i + 2]);
-        }
-        return x;
-    }
-
-    static void fill(PageLevels x, int s, int sort, long... elements) {
-        x.row(s, sort, elements.length);
-        for (int i = 0; i < elements.length; i++) {
-            x.set(s, i, elements[i]);
-        }
-    }
-
-    static void readAll(PageLevels x, int... pages) {
-        for (int page : pages) {
-            x.read(page);
-        }
-    }
-
-    static void feedAll(PageLevels x, String text) {
-        for (char c : text.toCharArray()) {
-            x.feed(c);
-        }
-    }
-
-    static int traffic(PageLevels x, String text) {
-        feedAll(x, text);
-        return x.traffic();
-    }
-
-    static long bits(int... pages) {
-        long bits = 0;
-        for (int page : pages) {
-            bits |= 1L << page;
-        }
-        return bits;
-    }
-
+public final class PromisesTest extends Checks {
     static void newObject() {
         promise = "1 a new object";
         PageLevels x = new PageLevels();
@@ -1229,10 +1167,10 @@ public final class PromisesTest {
         due("page", x.often(-1), BAD);
     }
 
-    /** DAYS by hand: what they draw, from a SEED on, and behind which PAGE. */
+    /** DAYS by hand: what they draw, from a SEED on. */
     static int draw(int[] seed, int n) {
-        seed[0] = seed[0] * 1103515245 + 12345;
-        return (seed[0] >>> 16) % n;
+        seed[0] = nextSeed(seed[0]);
+        return drawn(seed[0], n);
     }
 
     static void days() {
@@ -1243,7 +1181,7 @@ public final class PromisesTest {
         due("n", x.days(-1), BAD);
         int[] seed = {1};
         int page = 0;
-        for (int day = 0; day < 120; day++) {
+        for (int day = 0; day < 100; day++) {
             boolean write = draw(seed, 4) == 0;
             page = draw(seed, 3) == 0 ? draw(seed, 64) : page == 63 ? 0 : page + 1;
             int v = write ? draw(seed, 100) : 0;
@@ -1255,7 +1193,7 @@ public final class PromisesTest {
         }
         PageLevels y = new PageLevels();
         due("60 at once", y.days(60), 3000);
-        due("60 more", y.days(60), 3000);
+        due("40 more", y.days(40), 2000);
         due("the same draws", y.status(11), seed[0]);
         due("the same page", y.past(0, 0), page);
         PageLevels z = new PageLevels();
