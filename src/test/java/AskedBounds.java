@@ -44,6 +44,13 @@ final class AskedBounds extends Checks {
         due("none in truth", x.status(7), 0);
         readAll(x, 62);
         due("none behind 63", x.would(63, 2), 0);
+        PageLevels y = with(16, 1, 3);
+        y.tell(0, 3);
+        readAll(y, 5, 6);
+        due("three in truth", y.status(7), 3);
+        readAll(y, 20);
+        due("by it alone", y.would(21, 2), 3);
+        due("none by a hit", y.would(7, 2), 0);
     }
 
     @Says(promise = 27, words = "how many PAGES that were in a LEVEL would be in none (3)")
@@ -181,6 +188,14 @@ final class AskedBounds extends Checks {
         fill(x, 0, 2, 6, 7, 8);
         due("the run goes on: 7 is fetched, 8 isn't", x.plan(0, 3, 1), 1);
         due("to memory", x.plan(0, 3, 2), 2);
+        PageLevels r = with(2, 1, 6);
+        readAll(r, 1, 1, 1, 2);
+        fill(r, 0, 2, 3, 1);
+        due("with the times that were", r.plan(0, 2, 1), 1);
+        PageLevels c = with(2, 1, 7);
+        readAll(c, 1, 2, 1);
+        fill(c, 0, 2, 3, 1);
+        due("with what was used", c.plan(0, 2, 1), 1);
         PageLevels y = with(1, 1, 8, 2, 1, 8);
         y.seed(99);
         y.days(20);
@@ -407,9 +422,12 @@ final class AskedBounds extends Checks {
         due("2 is read later than 1", x.foresight(0, 5, 2), 1);
         fill(x, 1, 2, 1, 2, 3, 2, 2);
         due("1 never", x.foresight(1, 5, 2), 2);
-        // behind the fifth both 8 and 9 are never read again, though not at once: the least goes
         fill(x, 2, 2, 9, 8, 7, 7, 9);
         due("9 is read again, 8 never", x.foresight(2, 5, 2), 2);
+        fill(x, 3, 2, 0, 5, 6, 5, 6);
+        due("0 never", x.foresight(3, 5, 2), 2);
+        fill(x, 4, 2, 63, 5, 6, 5, 63, 6);
+        due("63 later than 5", x.foresight(4, 6, 2), 2);
     }
 
     // ---- 33: reuse, 34: rowOf

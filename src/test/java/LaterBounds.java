@@ -311,6 +311,25 @@ final class LaterBounds extends Checks {
         due("drawn", x.says(1, 8), 1);
     }
 
+    @Says(promise = 41, words = "All is again as it was kept")
+    static void backToNotes() {
+        for (int kind = 3; kind <= 8; kind++) {
+            PageLevels x = with(2, 1, kind);
+            x.write(1, 10);
+            readAll(x, 1, 1, 2);
+            x.image();
+            readAll(x, 2, 2, 2, 3, 4, 3);
+            x.write(4, 40);
+            x.clear();
+            readAll(x, 7, 8);
+            x.back();
+            dueAll("1", what -> x.slot(1, 0, what), 1, 1, 0, 3, 3, 1);
+            dueAll("2", what -> x.slot(1, 1, what), 2, 0, 1, 4, 1, 0);
+            due("the value", x.value(1, 1), 10);
+            dueAll("of the level", what -> x.levelOf(1, what), 2, 1, kind, 2, 1, 2, 2, 2, 0, 0);
+        }
+    }
+
     @Says(promise = 41, words = "(SHELVES with RULES hold those of LEVELS of the same numbers, or NOTHING)")
     static void backWithRules() {
         PageLevels x = with(2, 1, 3);

@@ -90,7 +90,10 @@ final class LevelsBounds extends Checks {
     @Says(promise = 12, words = "then there is one LEVEL more")
     static void levelBeginsAnew() {
         PageLevels x = with(1, 1, 8);
-        readAll(x, 1, 2, 3);
+        readAll(x, 1, 2, 3, 3);
+        x.write(3, 30);
+        x.sweep(1);
+        dueAll("of the one ahead", what -> x.levelOf(1, what), 1, 1, 8, 1, 0, 2, 3, 3, 1, 2);
         x.drop();
         x.level(2, 3, 8);
         x.show(0, 1);
@@ -276,6 +279,24 @@ final class LevelsBounds extends Checks {
         PageLevels z = inMode(1, 1, 1, 3, 2, 1, 3);
         readAll(z, 1, 2, 3);
         due("what isn't there any more doesn't go again", z.levelOf(1, 9), 2);
+    }
+
+    @Says(promise = 20, words = "how many it holds (3), DIRTY ones (4)")
+    static void levelOfWhatIsFree() {
+        PageLevels x = inMode(1, 4, 1, 3, 2, 1, 3);
+        x.tell(0, 2);
+        x.write(1, 10);
+        x.write(2, 20);
+        due("what was fetched drove both out", x.pages(2), bits(3, 4));
+        dueAll("1 holds nothing", what -> x.levelOf(1, what), 4, 1, 3, 0, 0);
+        due("nothing to sweep", x.sweep(1), 0);
+        PageLevels y = inMode(2, 3, 1, 3, 4, 1, 3);
+        y.tell(0, 2);
+        readAll(y, 1, 2);
+        y.write(3, 30);
+        due("3 left its slot, nothing came there", y.slot(2, 0, 0), NONE);
+        dueAll("none is dirty in 2", what -> y.levelOf(2, what), 4, 1, 3, 1, 0);
+        dueAll("one in 1", what -> y.levelOf(1, what), 3, 1, 3, 3, 1);
     }
 
     @Says(promise = 21, words = "PAGE (what 0; NONE: nothing), DIRTY (1; 1, 0), SINCE (2), LAST (3), TIMES (4), USED (5; "
