@@ -29,6 +29,10 @@ final class AskedBounds extends Checks {
         x.write(1, 11);
         due("both are", x.would(2, 1), 2);
         due("none in truth", x.levelOf(2, 8), 0);
+        PageLevels y = with(1, 1, 3);
+        y.tell(0, 1);
+        readAll(y, 5);
+        due("what is read and driven out at once was clean", y.would(6, 1), 0);
     }
 
     @Says(promise = 27, words = "FETCHED (2)")

@@ -330,6 +330,25 @@ final class LaterBounds extends Checks {
         }
     }
 
+    @Says(promise = 41, words = "All is again as it was kept")
+    static void backToFewerLevels() {
+        PageLevels x = with(2, 1, 3);
+        x.image();
+        x.level(3, 1, 7);
+        x.write(1, 10);
+        x.sweep(1);
+        x.write(2, 20);
+        due("back", x.back(), 1);
+        due("levels", x.status(0), 1);
+        due("nothing is held", x.pages(0), 0);
+        due("none of that number", x.levelOf(2, 0), BAD);
+        x.level(3, 1, 7);
+        dueAll("the one behind it is new", what -> x.levelOf(2, what), 3, 1, 7, 0, 0, 0, 0, 0, 0, 0);
+        due("nothing to sweep", x.sweep(2), 0);
+        x.read(1);
+        due("nor is it dirty", x.levelOf(2, 4), 0);
+    }
+
     @Says(promise = 41, words = "(SHELVES with RULES hold those of LEVELS of the same numbers, or NOTHING)")
     static void backWithRules() {
         PageLevels x = with(2, 1, 3);

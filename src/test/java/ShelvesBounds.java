@@ -373,8 +373,10 @@ final class ShelvesBounds extends Checks {
             due("none", x.says(0, 4), NONE);
             readAll(x, 7);
             due("one", x.says(0, 4), 1);
-            readAll(x, 8, 7);
-            due("the least", x.says(0, 4), 2);
+            readAll(x, 8);
+            due("the least, in slot 0", x.says(0, 4), 1);
+            readAll(x, 7);
+            due("the least, in slot 1", x.says(0, 4), 2);
             x.clear();
             due("none again", x.says(0, 4), NONE);
         }
@@ -384,8 +386,10 @@ final class ShelvesBounds extends Checks {
     static void saysGreatestLast() {
         PageLevels x = shown(3, 5);
         due("none", x.says(0, 5), NONE);
-        readAll(x, 7, 8, 7);
-        due("the greatest", x.says(0, 5), 3);
+        readAll(x, 7, 8);
+        due("the greatest, in slot 1", x.says(0, 5), 2);
+        readAll(x, 7);
+        due("the greatest, in slot 0", x.says(0, 5), 3);
         x.clear();
         due("none again", x.says(0, 5), NONE);
     }
@@ -395,7 +399,9 @@ final class ShelvesBounds extends Checks {
         PageLevels x = shown(3, 6);
         due("none", x.says(0, 6), NONE);
         readAll(x, 7, 7, 7, 8, 8);
-        due("the least", x.says(0, 6), 2);
+        due("the least, in slot 1", x.says(0, 6), 2);
+        readAll(x, 8, 8, 9, 9, 9, 9);
+        due("the least, in slot 0", x.says(0, 6), 3);
         x.clear();
         due("none again", x.says(0, 6), NONE);
     }

@@ -92,6 +92,10 @@ final class TapeBounds extends Checks {
         due("one", done("r5", 52).status(5), 1);
         due("30", done(reads(30), 30 * 52).status(5), 30);
         fault(reads(31), reads(30).length());
+        due("the 30th is a write", done(reads(29) + " w9=999", 30 * 52).value(1, 9), 999);
+        PageLevels fewer = done(reads(5), 5 * 52);
+        due("fewer than ahead", traffic(fewer, "r9"), 52);
+        due("none of those again", fewer.status(5), 6);
         StringBuilder large = new StringBuilder("w063=999");
         for (int i = 1; i < 30; i++) {
             large.append(" w063=999");
@@ -246,6 +250,14 @@ final class TapeBounds extends Checks {
         due("63", done("w63=1", 52).pages(1), bits(63));
         fault("r64", 1);
         fault("w64=1", 1);
+    }
+
+    @Says(promise = 0, words = "r PAGE; w PAGE = VALUE")
+    static void readsAndWrites() {
+        PageLevels x = done("w1=5 r1 r2", 52 + 1 + 52);
+        dueAll("were writes", i -> x.past(i, 1), 0, 0, 1);
+        due("the value stays", x.value(1, 1), 5);
+        due("what was read isn't dirty", x.differ(1), bits(1));
     }
 
     @Says(promise = 11, words = "THE TAPE is TRAFFIC: its COST, all together")

@@ -11,6 +11,11 @@ final class TermsBounds extends Checks {
         due("read 0", x.read(0), 5);
         due("read 63", x.read(63), 6);
         due("pages, the highest bit too", x.pages(1), Long.MIN_VALUE + 1);
+        x.clear();
+        due("0 in memory", x.value(0, 0), 5);
+        due("63 in memory", x.value(0, 63), 6);
+        due("0 from memory", x.read(0), 5);
+        due("63 from memory", x.read(63), 6);
         due("no page below", x.read(-1), BAD);
         due("no page above", x.read(64), BAD);
     }
