@@ -12,6 +12,8 @@ public final class PageLevels {
     private static final int FULL = -56;
     private static final int FINE = 0;
     private static final int REFUSAL_KINDS = 5;
+    /** The STATUS that tells how many of the first of the REFUSALS there were. */
+    private static final int FIRST_REFUSAL = 12;
     private static final int FAULTY = -800;
     private static final long REFUSED_BITS = 9_000_000_000_000_000_000L;
 
@@ -563,8 +565,9 @@ public final class PageLevels {
     }
 
     public int status(int what) {
-        if (isWithin(what, 12, 16)) {
-            return refusals[what - 12];
+        int refusal = what - FIRST_REFUSAL;
+        if (isWithin(refusal, 0, refusals.length - 1)) {
+            return refusals[refusal];
         }
         switch (what) {
             case 0: return now.count;
@@ -875,17 +878,19 @@ public final class PageLevels {
         /** Reads it as TRAFFIC among so many LEVELS: the FAULT; NONE: it has none. */
         int findFault(int levels) {
             at = 0;
-            for (parts = 0; parts < MOST_PARTS; at++) {
+            parts = 0;
+            for (int part = 1; part <= MOST_PARTS; part++) {
                 if (!readPart(levels)) {
                     return at;
                 }
-                parts++;
+                parts = part;
                 if (at >= size) {
                     return NONE;
                 }
-                if (byteHere() != BLANK || parts == MOST_PARTS) {
+                if (byteHere() != BLANK || part == MOST_PARTS) {
                     return at;
                 }
+                at++;
             }
             return at;
         }
